@@ -47,6 +47,7 @@ public final class PromisesTest {
         blocks();
         blockAt();
         free();
+        fullFilesDoNotTouchTheirNeighbours();
         objectsAreApart();
         System.out.println(wrong == 0 ? "all answers are as due" : wrong + " answers are not as due");
         if (wrong != 0) {
@@ -187,6 +188,9 @@ public final class PromisesTest {
         }
         due("make(1, 7, true)", x.make(1, 7, true), 61);
         due("extend(61, 1)", x.extend(61, 1), NOT_FILE);
+        due("find(1, 7)", x.find(1, 7), 61);
+        due("entry(1, 0)", x.entry(1, 0), 61);
+        due("entries(1)", x.entries(1), 1);
         due("make(1, 8, false)", x.make(1, 8, false), NO_ROOM);
         due("make(1, 7, false)", x.make(1, 7, false), NAME_TAKEN);
         due("make(61, 7, false)", x.make(61, 7, false), NO_ROOM);
@@ -698,6 +702,33 @@ public final class PromisesTest {
         due("free()", x.free(), 63);
         x.removeAll(2);
         due("free()", x.free(), 96);
+    }
+
+    private static void fullFilesDoNotTouchTheirNeighbours() {
+        where = "files with 6 extents side by side";
+        CatalogStore x = new CatalogStore();
+        for (int item = 2; item <= 5; item++) {
+            due("make " + item, x.make(1, item, false), item);
+        }
+        for (int number = 0; number < 6; number++) {
+            due("extend(2, 3)", x.extend(2, 3), 6 * number);
+            due("extend(4, 3)", x.extend(4, 3), 6 * number + 3);
+        }
+        due("blocks(3)", x.blocks(3), 0);
+        due("blockAt(3, 0)", x.blockAt(3, 0), NONE);
+        due("shrink(3)", x.shrink(3), NONE);
+        due("remove(3)", x.remove(3), 0);
+        due("removeAll(5)", x.removeAll(5), 1);
+        due("free()", x.free(), 60);
+        due("blocks(2)", x.blocks(2), 18);
+        due("blocks(4)", x.blocks(4), 18);
+        due("blockAt(2, 17)", x.blockAt(2, 17), 32);
+        due("blockAt(4, 0)", x.blockAt(4, 0), 3);
+        due("remove(2)", x.remove(2), 0);
+        due("extend(4, 1)", x.extend(4, 1), NO_ROOM);
+        due("blocks(4)", x.blocks(4), 18);
+        due("blockAt(4, 17)", x.blockAt(4, 17), 35);
+        due("free()", x.free(), 78);
     }
 
     private static void objectsAreApart() {
